@@ -55,13 +55,13 @@ public final class AgainstModelTest {
     }
 
     private void go() {
-        int busy = 1 + pick(3);
+        int settling = pick(100);
         for (int call = 0; call < CALLS; call++) {
             String at = name + call + ": ";
-            int kind = pick(10);
-            if (kind < busy) {
+            int kind = call < settling ? 0 : pick(20);
+            if (kind < 2) {
                 changeWorld(at);
-            } else if (kind < 6) {
+            } else if (kind < 10) {
                 changeTerms(at);
             } else {
                 ask(at);
@@ -101,9 +101,17 @@ public final class AgainstModelTest {
             Check.due(at + "back", x.back(side), model.back(side));
             return;
         }
-        // Variables come often, else there are few solutions.
-        int token = pick(3) == 0 ? 5 + pick(3) : pickOrWrong(8);
+        int token = pickToken(side);
         Check.due(at + "feed", x.feed(side, token), model.feed(side, token));
+    }
+
+    /** Unlike terms have no solutions: so what stands opposite, and variables, come often. */
+    private int pickToken(int side) {
+        int opposite = model.tokenOpposite(side);
+        if (opposite >= 0 && pick(3) > 0) {
+            return opposite >= 5 ? 5 + pick(3) : opposite;
+        }
+        return pick(2) == 0 ? 5 + pick(3) : pickOrWrong(8);
     }
 
     private void ask(String at) {

@@ -17,6 +17,7 @@ public final class SolutionsTest {
         sameTokensInAnotherShape();
         variablesThatDoNotOccurNeedAThing();
         firstIsLeastInDictionaryOrder();
+        firstVariableCountsFirst();
         wrongInputs();
         askingChangesNothing();
         Check.end();
@@ -269,10 +270,34 @@ public final class SolutionsTest {
         put(x, 0, 5);
         put(x, 1, 0, 7);
         dueFirst("x = f(z)", x, 4, 1, 1);
-        // The least x is 2 although smaller things stand for y and z elsewhere.
         put(x, 0, 1, 5, 0, 6);
         put(x, 1, 1, 4, 7);
         dueFirst("g(x, f(y)) = g(2, z)", x, 2, 1, 4);
+    }
+
+    private static void firstVariableCountsFirst() {
+        SortedSolver x = new SortedSolver();
+        x.constant(1, 1);
+        x.constant(2, 2);
+        x.below(0, 3);
+        x.below(1, 3);
+        // Of the things of g, g(0, 1) and g(1, 0) alone have the sort 2.
+        x.rankG(0, 1, 2, true);
+        x.rankG(1, 0, 2, true);
+        x.variable(0, 3);
+        x.variable(1, 2);
+        x.variable(2, 3);
+        put(x, 0, 6);
+        put(x, 1, 1, 7, 5);
+        Check.due("y = g(z, x): solutions", x.solutions(), 2);
+        dueFirst("y = g(z, x), the least x", x, 0, 9, 1);
+        x.variable(1, 3);
+        x.variable(2, 2);
+        put(x, 0, 7);
+        put(x, 1, 1, 6, 5);
+        Check.due("z = g(y, x): solutions", x.solutions(), 2);
+        dueFirst("z = g(y, x), the least x", x, 0, 1, 9);
+        dueValues("z = g(y, x)", x, 3, 3, 1 << 7 | 1 << 9);
     }
 
     private static void wrongInputs() {

@@ -103,6 +103,16 @@ final class Model {
         return within(side, 2) && endOfTerm(terms.get(side), 0) == terms.get(side).size();
     }
 
+    /** The other term's token at the place where a term goes on, -1 if it has none. */
+    int tokenOpposite(int side) {
+        if (!within(side, 2)) {
+            return -1;
+        }
+        List<Integer> other = terms.get(1 - side);
+        int place = terms.get(side).size();
+        return place < other.size() ? other.get(place) : -1;
+    }
+
     /** Where the term that begins at a place ends, -1 if the tokens end before. */
     private static int endOfTerm(List<Integer> tokens, int at) {
         if (at < 0 || at >= tokens.size()) {
