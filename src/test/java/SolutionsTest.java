@@ -23,23 +23,6 @@ public final class SolutionsTest {
         Check.end();
     }
 
-    /** Every thing has the sort 0, and so has every variable. */
-    private static SortedSolver fullWorld() {
-        SortedSolver x = new SortedSolver();
-        x.rankF(0, 0, true);
-        x.rankG(0, 0, 0, true);
-        return x;
-    }
-
-    private static void put(SortedSolver x, int side, int... tokens) {
-        for (int i = 0; i < 9; i++) {
-            x.back(side);
-        }
-        for (int token : tokens) {
-            x.feed(side, token);
-        }
-    }
-
     private static void dueFirst(String when, SortedSolver x, int a, int b, int c) {
         Check.due(when + ": first(0)", x.first(0), a);
         Check.due(when + ": first(1)", x.first(1), b);
@@ -64,26 +47,26 @@ public final class SolutionsTest {
     }
 
     private static void noSolutionUntilBothComplete() {
-        SortedSolver x = fullWorld();
+        SortedSolver x = Worlds.full();
         dueNothing("no tokens", x);
-        put(x, 0, 1, 5);
-        put(x, 1, 1, 5);
+        Worlds.put(x, 0, 1, 5);
+        Worlds.put(x, 1, 1, 5);
         dueNothing("the same tokens, not complete", x);
-        put(x, 0, 1, 5, 6);
+        Worlds.put(x, 0, 1, 5, 6);
         dueNothing("left complete", x);
-        put(x, 0, 1, 5);
-        put(x, 1, 1, 5, 6);
+        Worlds.put(x, 0, 1, 5);
+        Worlds.put(x, 1, 1, 5, 6);
         dueNothing("right complete", x);
-        put(x, 0, 1, 5, 6);
+        Worlds.put(x, 0, 1, 5, 6);
         Check.due("both complete", x.solutions(), 3375);
         x.back(0);
         dueNothing("left no more complete", x);
     }
 
     private static void everyAssignmentSolves() {
-        SortedSolver x = fullWorld();
-        put(x, 0, 3);
-        put(x, 1, 3);
+        SortedSolver x = Worlds.full();
+        Worlds.put(x, 0, 3);
+        Worlds.put(x, 1, 3);
         Check.due("1 = 1: solutions", x.solutions(), 3375);
         dueFirst("1 = 1", x, 0, 0, 0);
         dueValues("1 = 1", x, 0x7FFF, 0x7FFF, 0x7FFF);
@@ -98,22 +81,12 @@ public final class SolutionsTest {
         }
     }
 
-    private static int[] tokensOf(int thing) {
-        if (thing < 3) {
-            return new int[] {2 + thing};
-        }
-        if (thing < 6) {
-            return new int[] {0, thing - 1};
-        }
-        return new int[] {1, 2 + (thing - 6) / 3, 2 + thing % 3};
-    }
-
     private static void variableEqualsThing() {
         for (int v = 0; v < 3; v++) {
             for (int t = 0; t < 15; t++) {
-                SortedSolver x = fullWorld();
-                put(x, 0, 5 + v);
-                put(x, 1, tokensOf(t));
+                SortedSolver x = Worlds.full();
+                Worlds.put(x, 0, 5 + v);
+                Worlds.put(x, 1, Worlds.tokensOf(t));
                 String when = "variable " + v + " = thing " + t;
                 Check.due(when + ": solutions", x.solutions(), 225);
                 dueFirst(when, x, v == 0 ? t : 0, v == 1 ? t : 0, v == 2 ? t : 0);
@@ -129,9 +102,9 @@ public final class SolutionsTest {
     }
 
     private static void variableEqualsVariable() {
-        SortedSolver x = fullWorld();
-        put(x, 0, 5);
-        put(x, 1, 7);
+        SortedSolver x = Worlds.full();
+        Worlds.put(x, 0, 5);
+        Worlds.put(x, 1, 7);
         Check.due("x = z: solutions", x.solutions(), 225);
         Check.due("x = z: alike(0, 2)", x.solutionsAlike(0, 2), 225);
         Check.due("x = z: alike(2, 0)", x.solutionsAlike(2, 0), 225);
@@ -148,101 +121,101 @@ public final class SolutionsTest {
     }
 
     private static void functionAgainstVariable() {
-        SortedSolver x = fullWorld();
-        put(x, 0, 5);
-        put(x, 1, 1, 6, 7);
+        SortedSolver x = Worlds.full();
+        Worlds.put(x, 0, 5);
+        Worlds.put(x, 1, 1, 6, 7);
         Check.due("x = g(y, z): solutions", x.solutions(), 9);
         dueFirst("x = g(y, z)", x, 6, 0, 0);
         dueValues("x = g(y, z)", x, 0x7FC0, 7, 7);
         Check.due("x = g(y, z): with(0, 11)", x.solutionsWith(0, 11), 1);
         Check.due("x = g(y, z): with(1, 2)", x.solutionsWith(1, 2), 3);
         Check.due("x = g(y, z): alike(1, 2)", x.solutionsAlike(1, 2), 3);
-        put(x, 1, 1, 6, 5);
+        Worlds.put(x, 1, 1, 6, 5);
         dueNothing("x = g(y, x)", x);
-        put(x, 0, 0, 5);
-        put(x, 1, 1, 6, 7);
+        Worlds.put(x, 0, 0, 5);
+        Worlds.put(x, 1, 1, 6, 7);
         dueNothing("f(x) = g(y, z)", x);
-        put(x, 0, 0, 5);
-        put(x, 1, 2);
+        Worlds.put(x, 0, 0, 5);
+        Worlds.put(x, 1, 2);
         dueNothing("f(x) = 0", x);
     }
 
     private static void largerThanThings() {
-        SortedSolver x = fullWorld();
-        put(x, 0, 0, 0, 5);
-        put(x, 1, 0, 0, 6);
+        SortedSolver x = Worlds.full();
+        Worlds.put(x, 0, 0, 0, 5);
+        Worlds.put(x, 1, 0, 0, 6);
         Check.due("f(f(x)) = f(f(y)): solutions", x.solutions(), 225);
         Check.due("f(f(x)) = f(f(y)): alike", x.solutionsAlike(0, 1), 225);
-        put(x, 0, 1, 5, 1, 6, 7);
-        put(x, 1, 1, 1, 2, 3, 5);
+        Worlds.put(x, 0, 1, 5, 1, 6, 7);
+        Worlds.put(x, 1, 1, 1, 2, 3, 5);
         // x = g(0, 1) = g(y, z)
         Check.due("g(x, g(y, z)) = g(g(0, 1), x): solutions", x.solutions(), 1);
         dueFirst("g(x, g(y, z)) = g(g(0, 1), x)", x, 7, 0, 1);
         dueValues("g(x, g(y, z)) = g(g(0, 1), x)", x, 1 << 7, 1, 2);
-        put(x, 0, 0, 0, 0, 3);
-        put(x, 1, 0, 0, 6);
+        Worlds.put(x, 0, 0, 0, 0, 3);
+        Worlds.put(x, 1, 0, 0, 6);
         Check.due("f(f(f(1))) = f(f(y)): solutions", x.solutions(), 225);
         dueFirst("f(f(f(1))) = f(f(y))", x, 0, 4, 0);
-        put(x, 0, 0, 0, 0, 3);
-        put(x, 1, 0, 6);
+        Worlds.put(x, 0, 0, 0, 0, 3);
+        Worlds.put(x, 1, 0, 6);
         dueNothing("f(f(f(1))) = f(y)", x);
     }
 
     private static void longestTerms() {
-        SortedSolver x = fullWorld();
-        put(x, 0, 1, 1, 1, 1, 5, 6, 7, 5, 6);
-        put(x, 1, 1, 1, 1, 1, 6, 7, 5, 6, 7);
+        SortedSolver x = Worlds.full();
+        Worlds.put(x, 0, 1, 1, 1, 1, 5, 6, 7, 5, 6);
+        Worlds.put(x, 1, 1, 1, 1, 1, 6, 7, 5, 6, 7);
         Check.due("nine tokens, all alike: solutions", x.solutions(), 15);
         Check.due("nine tokens: with(1, 14)", x.solutionsWith(1, 14), 1);
         dueValues("nine tokens", x, 0x7FFF, 0x7FFF, 0x7FFF);
-        put(x, 1, 1, 5, 1, 6, 1, 7, 1, 5, 6);
+        Worlds.put(x, 1, 1, 5, 1, 6, 1, 7, 1, 5, 6);
         dueNothing("nine tokens, the other comb", x);
-        put(x, 0, 0, 0, 0, 0, 0, 0, 0, 0, 5);
-        put(x, 1, 0, 0, 0, 0, 0, 0, 0, 6);
+        Worlds.put(x, 0, 0, 0, 0, 0, 0, 0, 0, 0, 5);
+        Worlds.put(x, 1, 0, 0, 0, 0, 0, 0, 0, 6);
         Check.due("eight times f = seven times f: solutions", x.solutions(), 45);
         dueFirst("eight times f = seven times f", x, 0, 3, 0);
-        put(x, 1, 0, 0, 0, 0, 0, 0, 6);
+        Worlds.put(x, 1, 0, 0, 0, 0, 0, 0, 6);
         dueNothing("eight times f = six times f", x);
     }
 
     private static void resultsNeedNoSort() {
         SortedSolver x = new SortedSolver();
-        put(x, 0, 0, 5);
-        put(x, 1, 0, 3);
+        Worlds.put(x, 0, 0, 5);
+        Worlds.put(x, 1, 0, 3);
         Check.due("f(x) = f(1) without ranks: solutions", x.solutions(), 9);
         dueFirst("f(x) = f(1) without ranks", x, 1, 0, 0);
-        put(x, 0, 1, 5, 6);
-        put(x, 1, 1, 4, 3);
+        Worlds.put(x, 0, 1, 5, 6);
+        Worlds.put(x, 1, 1, 4, 3);
         Check.due("g(x, y) = g(2, 1) without ranks: solutions", x.solutions(), 3);
         dueFirst("g(x, y) = g(2, 1) without ranks", x, 2, 1, 0);
-        put(x, 0, 5);
-        put(x, 1, 0, 3);
+        Worlds.put(x, 0, 5);
+        Worlds.put(x, 1, 0, 3);
         dueNothing("x = f(1) without ranks", x);
         // A constant of the equation needs no sort of any variable either.
         x.constant(2, 3);
-        put(x, 0, 0, 4);
-        put(x, 1, 0, 4);
+        Worlds.put(x, 0, 0, 4);
+        Worlds.put(x, 1, 0, 4);
         Check.due("f(2) = f(2): solutions", x.solutions(), 8);
     }
 
     private static void sameTokensInAnotherShape() {
-        SortedSolver x = fullWorld();
-        put(x, 0, 1, 0, 5, 6);
-        put(x, 1, 1, 5, 0, 6);
+        SortedSolver x = Worlds.full();
+        Worlds.put(x, 0, 1, 0, 5, 6);
+        Worlds.put(x, 1, 1, 5, 0, 6);
         // f(x) = x never holds.
         dueNothing("g(f(x), y) = g(x, f(y))", x);
-        put(x, 1, 0, 1, 5, 6);
+        Worlds.put(x, 1, 0, 1, 5, 6);
         dueNothing("g(f(x), y) = f(g(x, y))", x);
-        put(x, 0, 1, 5, 6);
-        put(x, 1, 1, 6, 5);
+        Worlds.put(x, 0, 1, 5, 6);
+        Worlds.put(x, 1, 1, 6, 5);
         Check.due("g(x, y) = g(y, x): solutions", x.solutions(), 225);
         Check.due("g(x, y) = g(y, x): alike", x.solutionsAlike(0, 1), 225);
     }
 
     private static void variablesThatDoNotOccurNeedAThing() {
-        SortedSolver x = fullWorld();
-        put(x, 0, 5);
-        put(x, 1, 5);
+        SortedSolver x = Worlds.full();
+        Worlds.put(x, 0, 5);
+        Worlds.put(x, 1, 5);
         Check.due("x = x: solutions", x.solutions(), 3375);
         x.variable(2, 1);
         dueNothing("x = x, no thing for z", x);
@@ -256,22 +229,22 @@ public final class SolutionsTest {
     }
 
     private static void firstIsLeastInDictionaryOrder() {
-        SortedSolver x = fullWorld();
-        put(x, 0, 1, 5, 6);
-        put(x, 1, 1, 7, 0, 5);
+        SortedSolver x = Worlds.full();
+        Worlds.put(x, 0, 1, 5, 6);
+        Worlds.put(x, 1, 1, 7, 0, 5);
         // x = z, y = f(x)
         dueFirst("g(x, y) = g(z, f(x))", x, 0, 3, 0);
         x.constant(0, 1);
         dueFirst("the same, constant 0 of sort 1", x, 1, 4, 1);
-        put(x, 0, 7);
-        put(x, 1, 0, 5);
+        Worlds.put(x, 0, 7);
+        Worlds.put(x, 1, 0, 5);
         // z = f(x), so the least z goes with the least x.
         dueFirst("z = f(x)", x, 1, 1, 4);
-        put(x, 0, 5);
-        put(x, 1, 0, 7);
+        Worlds.put(x, 0, 5);
+        Worlds.put(x, 1, 0, 7);
         dueFirst("x = f(z)", x, 4, 1, 1);
-        put(x, 0, 1, 5, 0, 6);
-        put(x, 1, 1, 4, 7);
+        Worlds.put(x, 0, 1, 5, 0, 6);
+        Worlds.put(x, 1, 1, 4, 7);
         dueFirst("g(x, f(y)) = g(2, z)", x, 2, 1, 4);
     }
 
@@ -287,23 +260,23 @@ public final class SolutionsTest {
         x.variable(0, 3);
         x.variable(1, 2);
         x.variable(2, 3);
-        put(x, 0, 6);
-        put(x, 1, 1, 7, 5);
+        Worlds.put(x, 0, 6);
+        Worlds.put(x, 1, 1, 7, 5);
         Check.due("y = g(z, x): solutions", x.solutions(), 2);
         dueFirst("y = g(z, x), the least x", x, 0, 9, 1);
         x.variable(1, 3);
         x.variable(2, 2);
-        put(x, 0, 7);
-        put(x, 1, 1, 6, 5);
+        Worlds.put(x, 0, 7);
+        Worlds.put(x, 1, 1, 6, 5);
         Check.due("z = g(y, x): solutions", x.solutions(), 2);
         dueFirst("z = g(y, x), the least x", x, 0, 1, 9);
         dueValues("z = g(y, x)", x, 3, 3, 1 << 7 | 1 << 9);
     }
 
     private static void wrongInputs() {
-        SortedSolver x = fullWorld();
-        put(x, 0, 3);
-        put(x, 1, 3);
+        SortedSolver x = Worlds.full();
+        Worlds.put(x, 0, 3);
+        Worlds.put(x, 1, 3);
         for (int wrong : NO_VARIABLE) {
             Check.due("first(" + wrong + ")", x.first(wrong), -1);
             Check.due("values(" + wrong + ")", x.values(wrong), 0);
@@ -323,9 +296,9 @@ public final class SolutionsTest {
     }
 
     private static void askingChangesNothing() {
-        SortedSolver x = fullWorld();
-        put(x, 0, 5);
-        put(x, 1, 1, 6, 7);
+        SortedSolver x = Worlds.full();
+        Worlds.put(x, 0, 5);
+        Worlds.put(x, 1, 1, 6, 7);
         for (int round = 0; round < 3; round++) {
             Check.due("solutions again", x.solutions(), 9);
             dueFirst("again", x, 6, 0, 0);
